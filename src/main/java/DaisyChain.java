@@ -97,8 +97,8 @@ public final class DaisyChain {
             case 2: return told.petals[f];
             case 3: return moment.isPicked(f) ? 1 : 0;
             case 4: return moment.isPicked(f) ? moment.dry[f] : NONE;
-            case 5: return moment.place[f];
-            case 6: return moment.length[f];
+            case 5: return moment.slitPlace[f];
+            case 6: return moment.slitLength[f];
             case 7: return moment.isSlit(f) ? holds(f) : NONE;
             default: return BAD;
         }
@@ -144,8 +144,8 @@ public final class DaisyChain {
             return STATE;
         }
         remember();
-        moment.place[f] = place;
-        moment.length[f] = length;
+        moment.slitPlace[f] = place;
+        moment.slitLength[f] = length;
         return holds(f);
     }
 
@@ -418,7 +418,7 @@ public final class DaisyChain {
 
     public int count(int what) {
         switch (what) {
-            case 0: return told.count;
+            case 0: return told.flowers;
             case 1: return told.wilt;
             case 2: return sightCount;
             case 3: return text.size;
@@ -441,7 +441,7 @@ public final class DaisyChain {
     }
 
     private boolean isFlower(int f) {
-        return isWithin(f, 0, told.count - 1);
+        return isWithin(f, 0, told.flowers - 1);
     }
 
     // ---- how much a slit holds
@@ -451,12 +451,12 @@ public final class DaisyChain {
     }
 
     private boolean isOpen(int f) {
-        return moment.place[f] + moment.length[f] > told.stalk[f];
+        return moment.slitPlace[f] + moment.slitLength[f] > told.stalk[f];
     }
 
     /** What a slit holds before it wilts; none of an OPEN one, so that it can never hold more. */
     private int freshHold(int f) {
-        return isOpen(f) ? 0 : 10 * told.thick[f] - 3 * moment.length[f] - moment.place[f];
+        return isOpen(f) ? 0 : 10 * told.thick[f] - 3 * moment.slitLength[f] - moment.slitPlace[f];
     }
 
     private int holds(int f) {
@@ -482,7 +482,7 @@ public final class DaisyChain {
 
     /** Whether the slit of one FLOWER is such that the other's stalk goes through. */
     private boolean takes(int slit, int other) {
-        return moment.isSlit(slit) && !isOpen(slit) && moment.length[slit] >= told.thick[other];
+        return moment.isSlit(slit) && !isOpen(slit) && moment.slitLength[slit] >= told.thick[other];
     }
 
     private boolean fitsBehind(int f) {
@@ -494,7 +494,7 @@ public final class DaisyChain {
 
     private int canBeThreaded() {
         int bits = 0;
-        for (int f = 0; f < told.count; f++) {
+        for (int f = 0; f < told.flowers; f++) {
             if (fitsBehind(f)) {
                 bits |= 1 << f;
             }
@@ -508,7 +508,7 @@ public final class DaisyChain {
         }
         int sum = told.stalk[moment.lastOne()];
         for (int k = 0; k < moment.linkCount(); k++) {
-            sum += moment.place[moment.chain[k]];
+            sum += moment.slitPlace[moment.chain[k]];
         }
         return sum;
     }
@@ -553,7 +553,7 @@ public final class DaisyChain {
     // ---- minutes and what is undone
 
     private void dryBy(int n) {
-        for (int f = 0; f < told.count; f++) {
+        for (int f = 0; f < told.flowers; f++) {
             if (moment.isPicked(f)) {
                 moment.dry[f] += n;
             }
@@ -632,19 +632,19 @@ public final class DaisyChain {
 
     /** What a text tells of the FLOWERS and of WILT. */
     private static final class Told {
-        int count = 0;
+        int flowers = 0;
         int wilt = FIRST_WILT;
         final int[] thick = new int[MOST_FLOWERS];
         final int[] stalk = new int[MOST_FLOWERS];
         final int[] petals = new int[MOST_FLOWERS];
 
         void restart() {
-            count = 0;
+            flowers = 0;
             wilt = FIRST_WILT;
         }
 
         void take(Told other) {
-            count = other.count;
+            flowers = other.flowers;
             wilt = other.wilt;
             System.arraycopy(other.thick, 0, thick, 0, MOST_FLOWERS);
             System.arraycopy(other.stalk, 0, stalk, 0, MOST_FLOWERS);
@@ -658,8 +658,8 @@ public final class DaisyChain {
         int water = 0;
         int picked = 0;
         final int[] dry = new int[MOST_FLOWERS];
-        final int[] place = new int[MOST_FLOWERS];
-        final int[] length = new int[MOST_FLOWERS];
+        final int[] slitPlace = new int[MOST_FLOWERS];
+        final int[] slitLength = new int[MOST_FLOWERS];
         final int[] chain = new int[MOST_FLOWERS];
         int chained = 0;
 
@@ -670,8 +670,8 @@ public final class DaisyChain {
             chained = 0;
             for (int f = 0; f < MOST_FLOWERS; f++) {
                 dry[f] = 0;
-                place[f] = 0;
-                length[f] = 0;
+                slitPlace[f] = 0;
+                slitLength[f] = 0;
             }
         }
 
@@ -681,8 +681,8 @@ public final class DaisyChain {
             picked = other.picked;
             chained = other.chained;
             System.arraycopy(other.dry, 0, dry, 0, MOST_FLOWERS);
-            System.arraycopy(other.place, 0, place, 0, MOST_FLOWERS);
-            System.arraycopy(other.length, 0, length, 0, MOST_FLOWERS);
+            System.arraycopy(other.slitPlace, 0, slitPlace, 0, MOST_FLOWERS);
+            System.arraycopy(other.slitLength, 0, slitLength, 0, MOST_FLOWERS);
             System.arraycopy(other.chain, 0, chain, 0, MOST_FLOWERS);
         }
 
@@ -691,7 +691,7 @@ public final class DaisyChain {
         }
 
         boolean isSlit(int f) {
-            return place[f] > 0;
+            return slitPlace[f] > 0;
         }
 
         int linkCount() {
@@ -782,7 +782,7 @@ public final class DaisyChain {
         }
 
         private boolean readsFlower() {
-            int f = draft.count;
+            int f = draft.flowers;
             if (f >= MOST_FLOWERS || !readsNumber(1, MOST_THICK)) {
                 return false;
             }
@@ -795,7 +795,7 @@ public final class DaisyChain {
                 return false;
             }
             draft.petals[f] = tokenValue;
-            draft.count++;
+            draft.flowers++;
             return readsItemEnd();
         }
 
@@ -867,8 +867,8 @@ public final class DaisyChain {
 
         void prepare(Told told, Moment moment, int v) {
             picked = moment.picked;
-            for (int f = 0; f < told.count; f++) {
-                for (int next = 0; next < told.count; next++) {
+            for (int f = 0; f < told.flowers; f++) {
+                for (int next = 0; next < told.flowers; next++) {
                     places[f * MOST_FLOWERS + next] = bestPlace(told, moment, f, told.thick[next], v);
                 }
             }

@@ -127,6 +127,8 @@ public final class PromisesTest {
         due(4, "seven, and w between", Check.tell(x, "d1 1 1;d2 2 2;d3 3 3;w1;d4 4 4;d5 5 5;d6 6 6;d7 7 7;"), 8);
         due(4, "count(0)", x.count(0), 7);
         due(4, "flower(6, 1)", x.flower(6, 1), 7);
+        due(4, "200 letters", Check.tell(x, " ".repeat(193) + "d9 8 7;"), 1);
+        due(4, "flower(0, 2)", x.flower(0, 2), 7);
     }
 
     private static void fault(String text, int place) {
@@ -237,7 +239,9 @@ public final class PromisesTest {
         due(5, "DRY", x.flower(1, 4), 0);
         due(5, "HOLDS, PICKED but not SLIT", x.flower(1, 7), NONE);
         x.slits(1, 6, 2);
-        x.minutes(7);
+        x.minutes(3);
+        due(5, "HOLDS, 9 by 10 cut", x.flower(1, 7), 30 - 6 - 6);
+        x.minutes(4);
         due(5, "DRY", x.flower(1, 4), 7);
         due(5, "PLACE", x.flower(1, 5), 6);
         due(5, "LENGTH", x.flower(1, 6), 2);
@@ -533,6 +537,19 @@ public final class PromisesTest {
         y.threads(1);
         y.threads(0);
         due(15, "as how many-th, not which FLOWER", y.weakest(0), 1);
+        DaisyChain z = Check.told("d3 20 1;d3 20 1;d3 20 1;w1;");
+        z.picks(1);
+        z.minutes(9);
+        z.picks(0);
+        z.picks(2);
+        z.slits(0, 5, 3);
+        z.slits(1, 5, 3);
+        z.threads(0);
+        z.threads(1);
+        z.threads(2);
+        due(15, "9 by 10 is 0: alike yet, so the first", z.weakest(0), 0);
+        z.minutes(1);
+        due(15, "10 by 10 is 1", z.weakest(0), 1);
     }
 
     private static void promise16Hung() {
@@ -589,6 +606,10 @@ public final class PromisesTest {
         due(17, "in 390 minutes less than 3", y.inTime(3), 390);
         y.minutes(1);
         due(17, "in 399 minutes less than 2", y.inTime(2), 399);
+        y.minutes(8);
+        due(17, "in 401 minutes less than 1: that is too late", y.inTime(1), NONE);
+        y.minutes(1);
+        due(17, "in 400 minutes less than 1", y.inTime(1), 400);
         for (int i = 0; i < 9; i++) {
             y.minutes(60);
         }
@@ -703,6 +724,8 @@ public final class PromisesTest {
         x.slits(0, 5, 5);
         due(21, "whatever is SLIT, in THE CHAIN or not", x.bestSlit(0, 2, 10), 11);
         due(21, "nothing is changed", x.flower(0, 5), 5);
+        x.minutes(47);
+        due(21, "t 1, wilted by 18", x.bestSlit(0, 1, 1), 30 - 3 - 18 - 1);
     }
 
     private static void promise22Longest() {
@@ -782,6 +805,11 @@ public final class PromisesTest {
         due(24, "by the second", y.row(15, 0, 1), 2);
         due(24, "by the second of three", y.row(24, 0, 1), 2);
         due(24, "by the third of three", y.row(24, 0, 2), 3);
+        // 1 has no PLACE for 2: 0, 1, 2 is no row, 0, 2, 1 is one of 59 INCHES
+        DaisyChain z = Check.picked("d9 30 1;d1 3 1;d3 30 1;w0;", 3);
+        due(24, "who can't be ahead of another", z.row(58, 0, 0), 0);
+        due(24, "who can't be ahead of another", z.row(58, 0, 1), 2);
+        due(24, "who can't be ahead of another", z.row(58, 0, 2), 1);
     }
 
     private static void promise25Seen() {
