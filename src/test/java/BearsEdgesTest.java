@@ -76,6 +76,27 @@ final class BearsEdgesTest extends Edges {
         due("which", x.weakest(0), 1);
     }
 
+    /** NOW: neither a MINUTE too early nor a MINUTE too late; 9 by 10 is cut, 10 by 10 is 1 */
+    static void promise15AsItIsNow() {
+        DaisyChain x = Check.told(THIN.repeat(3) + "w1;");
+        x.picks(1);
+        x.minutes(9);
+        x.picks(0);
+        x.picks(2);
+        x.slits(0, 2, 1);
+        x.slits(1, 2, 1);
+        for (int f = 0; f < 3; f++) {
+            x.threads(f);
+        }
+        due("9 and 0 DRY: alike yet", x.weakest(0), 0);
+        x.minutes(1);
+        due("10 and 1 DRY", x.weakest(0), 1);
+        x.minutes(8);
+        due("18 and 9 DRY", x.weakest(0), 1);
+        x.minutes(1);
+        due("19 and 10 DRY: alike again", x.weakest(0), 0);
+    }
+
     static void promise15NothingIsChanged() {
         leaves("weakest(0)", Twins::busy, 1, x -> x.weakest(0));
         leaves("weakest(1)", Twins::busy, 12, x -> x.weakest(1));

@@ -452,6 +452,19 @@ final class DoneEdgesTest extends Edges {
         due("none", x.undo(), STATE);
     }
 
+    /** "An object is used for at most 512 calls": ten are known to the last of them. */
+    static void promise14OverAllCalls() {
+        DaisyChain x = new DaisyChain();
+        int last = MOST_CALLS - 11;
+        for (int i = 1; i <= last; i++) {
+            x.water(i / 2 % 2);
+        }
+        for (int more = 9; more >= 0; more--) {
+            due("undo()", x.undo(), more);
+        }
+        due("WATER, as by the one ahead of the last ten", x.now(1), (last - 10) / 2 % 2);
+    }
+
     static void promise14NotUndoneItself() {
         DaisyChain x = minutesOneByOne(3);
         due("undo()", x.undo(), 2);
@@ -513,6 +526,24 @@ final class DoneEdgesTest extends Edges {
         due("slits()", x.flower(0, 7), NONE);
         x.undo();
         due("picks()", x.flower(0, 4), NONE);
+    }
+
+    /** THE CHAIN comes back as it was, though others stood at the same places meanwhile. */
+    static void promise14OthersInTheChainMeanwhile() {
+        DaisyChain x = chained(3, "d1 9 1;", "", 1, 1);
+        for (int i = 0; i < 3; i++) {
+            x.pulls();
+        }
+        for (int f = 2; f >= 0; f--) {
+            x.threads(f);
+        }
+        due("link(0) meanwhile", x.link(0), 2);
+        for (int more = 9; more >= 4; more--) {
+            due("undo()", x.undo(), more);
+        }
+        for (int k = 0; k < 3; k++) {
+            due("link(" + k + ")", x.link(k), k);
+        }
     }
 
     /** "(nothing can be UNDONE behind back())" */

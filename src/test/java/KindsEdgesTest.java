@@ -198,6 +198,23 @@ final class KindsEdgesTest extends Edges {
         due("SLIT since", x.flower(1, 7), NONE);
     }
 
+    static void promise31OthersInTheChainMeanwhile() {
+        DaisyChain x = chained(2, "d1 9 1;", "", 1, 1);
+        x.keep(0);
+        x.pulls();
+        x.pulls();
+        x.threads(1);
+        x.threads(0);
+        due("link(0) meanwhile", x.link(0), 1);
+        x.keep(1);
+        x.back(0);
+        due("link(0)", x.link(0), 0);
+        due("link(1)", x.link(1), 1);
+        x.back(1);
+        due("link(0) of the other IMAGE", x.link(0), 1);
+        due("link(1) of the other IMAGE", x.link(1), 0);
+    }
+
     /** "nothing else": the text, what is told, SEEN and THE TRACE are in no IMAGE */
     static void promise31NothingElse() {
         DaisyChain x = Twins.busy();

@@ -155,6 +155,29 @@ final class MakesEdgesTest extends Edges {
         longest("three", x, 0, 29 + 29 + 2, 3);
     }
 
+    static void promise22TheFirstFlowerBehindOthers() {
+        longest("29 and 30", Check.picked("d1 30 1;d9 30 1;", 2), 1, 29 + 30, 2);
+        longest("28, 29 and 30", Check.picked("d1 30 1;d2 30 1;d3 30 1;", 3), 0, 28 + 29 + 30, 3);
+    }
+
+    /**
+     * 0 ahead of 1 is 29 inches, 0 ahead of 2 is 27; 1 HOLDS 1 less PLACE for 2, and 2 is wilted:
+     * no PLACE, and none below, makes 0, 1, 2 a row.
+     */
+    static void promise22NoPlaceNoRow() {
+        DaisyChain x = Check.told("d9 30 1;d1 4 1;d3 30 1;w9;");
+        x.picks(2);
+        x.minutes(60);
+        x.picks(0);
+        x.picks(1);
+        due("nowhere", x.bestSlit(1, 3, 1), NONE);
+        longest("HOLD 1", x, 1, 27 + 30, 2);
+        longest("HOLD 2", x, 2, 27 + 30, 2);
+        due("58 inches", x.fewest(58, 1), NONE);
+        due("58 inches", x.row(58, 1, 0), NONE);
+        longest("HOLD 0: 27, 29 and 4, or 29, 1 and 30", x, 0, 60, 3);
+    }
+
     /** "how many FLOWERS (the fewest by which it is so)" */
     static void promise22FewestOfAsMany() {
         longest("2, or 1 and 1", Check.picked("d1 1 1;d1 2 1;", 2), 0, 2, 1);
@@ -272,6 +295,36 @@ final class MakesEdgesTest extends Edges {
         due("39 inches: 1, 8 and 30", x.row(39, 0, 0), 0);
         due("39 inches: 1, 8 and 30", x.row(39, 0, 1), 1);
         due("40 inches: 29, 8 and 2 are 39", x.row(40, 0, 0), NONE);
+    }
+
+    static void promise24OnlyWhatIsPicked() {
+        DaisyChain x = alike(3, THIN, "");
+        x.picks(2);
+        due("1 inch", x.row(1, 0, 0), 2);
+        due("31 inches", x.row(31, 0, 0), NONE);
+        x.picks(1);
+        due("1 inch", x.row(1, 0, 0), 1);
+        due("31 inches", x.row(31, 0, 1), 2);
+    }
+
+    static void promise24StalkOfOneInch() {
+        DaisyChain x = Check.picked("d1 1 1;d1 2 1;", 2);
+        due("1 inch", x.row(1, 0, 0), 0);
+        due("2 inches", x.row(2, 0, 0), 1);
+        due("3 inches", x.row(3, 0, 0), NONE);
+    }
+
+    /** 0, 1, 2 and 0, 2, 1 are 34 inches, 1, 0, 2 and 1, 2, 0 are 37; 2, 0 is 34, too. */
+    static void promise24JustEnoughInches() {
+        DaisyChain x = Check.picked("d1 5 1;d4 5 1;d2 30 1;w0;", 3);
+        due("34 inches", x.row(34, 0, 0), 2);
+        due("34 inches", x.row(34, 0, 1), 0);
+        for (int n = 35; n <= 37; n++) {
+            due(n + " inches, the first one", x.row(n, 0, 0), 1);
+            due(n + " inches, the second one", x.row(n, 0, 1), 0);
+            due(n + " inches, the third one", x.row(n, 0, 2), 2);
+        }
+        due("38 inches", x.row(38, 0, 0), NONE);
     }
 
     static void promise24NothingIsChanged() {
