@@ -209,6 +209,7 @@ final class DoneEdgesTest extends Edges {
         due("more by one", x.threads(1), 5 + 15);
         x.slits(1, 2, 9);
         due("far more", x.threads(2), 5 + 2 + 10);
+        leaves("less by one", DoneEdgesTest::firstSlitFor2, STATE, y -> y.threads(1));
     }
 
     static void promise10MostThick() {
@@ -251,6 +252,12 @@ final class DoneEdgesTest extends Edges {
     private static DaisyChain firstOpen() {
         DaisyChain x = firstAlone();
         due("slits(0, 20, 9)", x.slits(0, 20, 9), 0);
+        return x;
+    }
+
+    private static DaisyChain firstSlitFor2() {
+        DaisyChain x = firstAlone();
+        due("slits(0, 5, 2)", x.slits(0, 5, 2), 29);
         return x;
     }
 
