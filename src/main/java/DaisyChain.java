@@ -852,8 +852,9 @@ public final class DaisyChain {
             token = is0AheadOfOthers || tokenValue >= TOO_MUCH ? OTHER : NUMBER;
         }
 
+        // Compares by itself: by isWithin, calls from meadow() would go nine deep.
         private static boolean isDigit(int letter) {
-            return isWithin(letter, '0', '9');
+            return letter >= '0' && letter <= '9';
         }
     }
 

@@ -6,8 +6,11 @@ import java.lang.reflect.Modifier;
 import java.nio.file.Files;
 import java.nio.file.Path;
 import java.util.Arrays;
+import java.util.Map;
 import java.util.Set;
+import java.util.TreeMap;
 import java.util.TreeSet;
+import java.util.regex.Matcher;
 import java.util.regex.Pattern;
 
 /** The document's face, and those rules of LANGUAGE.md that can be looked up in the class and its file. */
@@ -27,6 +30,9 @@ public final class LanguageTest {
         "while *\\( *true", "for *\\( *; *;",
     };
     private static final int MOST_LINES_OF_A_METHOD = 60;
+    private static final int MOST_FIELDS_OF_A_CLASS = 20;
+    private static final int DEEPEST_CALL = 8;
+    private static final Pattern CALL = Pattern.compile("((?:Math|Integer|System)\\.)?(\\w+)\\(");
 
     public static void main(String[] args) throws IOException {
         face();
@@ -98,10 +104,20 @@ public final class LanguageTest {
         for (Class<?> one : inside) {
             Check.holds(one + " is static", Modifier.isStatic(one.getModifiers()));
             Check.holds(one + " is not public", !Modifier.isPublic(one.getModifiers()));
-            for (Method method : one.getDeclaredMethods()) {
-                Check.holds(method + " takes at most seven", method.getParameterCount() <= 7);
-            }
+            keepsItsSize(one);
         }
+        keepsItsSize(DaisyChain.class);
+    }
+
+    private static void keepsItsSize(Class<?> one) {
+        for (Method method : one.getDeclaredMethods()) {
+            Check.holds(method + " takes at most seven", method.getParameterCount() <= 7);
+        }
+        int fields = 0;
+        for (Field field : one.getDeclaredFields()) {
+            fields += Modifier.isStatic(field.getModifiers()) ? 0 : 1;
+        }
+        Check.holds(one + " has some twenty fields at most", fields <= MOST_FIELDS_OF_A_CLASS);
     }
 
     private static void sourceKeepsToTheRules() throws IOException {
@@ -111,21 +127,46 @@ public final class LanguageTest {
         for (String ruledOut : RULED_OUT) {
             Check.holds("no " + ruledOut, !Pattern.compile(ruledOut).matcher(code).find());
         }
-        methodsAreShort(source);
+        Map<String, String> bodies = bodiesByName(code);
+        for (String method : FACE) {
+            String name = method.substring(method.indexOf(' ') + 1, method.indexOf('('));
+            Check.holds(name + " is found in the file", bodies.containsKey(name));
+            Check.holds(name + " calls at most eight deep", depth(bodies, name, 1) <= DEEPEST_CALL);
+        }
     }
 
-    private static void methodsAreShort(String source) {
-        String[] lines = source.split("\n");
+    /** Each method's lines, those of the same name together; each of them must be short. */
+    private static Map<String, String> bodiesByName(String code) {
+        Map<String, String> bodies = new TreeMap<>();
+        String[] lines = code.split("\n");
         for (int i = 0; i < lines.length; i++) {
             if (!lines[i].matches(" +(public |private |static |final )*\\w+(\\[\\])? \\w+\\(.*\\) \\{")) {
                 continue;
             }
             String end = lines[i].replaceAll("\\S.*", "") + "}";
-            int last = i;
+            StringBuilder body = new StringBuilder();
+            int last = i + 1;
             while (last < lines.length && !lines[last].equals(end)) {
+                body.append(lines[last]).append('\n');
                 last++;
             }
             Check.holds(lines[i].trim() + " is short", last - i <= MOST_LINES_OF_A_METHOD);
+            bodies.merge(lines[i].replaceAll(".* (\\w+)\\(.*", "$1"), body.toString(), String::concat);
         }
+        return bodies;
+    }
+
+    /** How deep calls go, the first one and those of the library counted; more than may be if one comes back to itself. */
+    private static int depth(Map<String, String> bodies, String name, int above) {
+        int deepest = above;
+        Matcher calls = CALL.matcher(bodies.get(name));
+        while (calls.find() && deepest <= DEEPEST_CALL) {
+            if (calls.group(1) != null) {
+                deepest = Math.max(deepest, above + 1);
+            } else if (bodies.containsKey(calls.group(2))) {
+                deepest = Math.max(deepest, depth(bodies, calls.group(2), above + 1));
+            }
+        }
+        return deepest;
     }
 }
